@@ -991,16 +991,18 @@ public final class CutoffMill {
             if (wasInOtherRing(ring)) {
                 return OTHER_RING;
             }
-            if (firstOtherText(ring) != NONE) {
+            // Built last in this ring, its modules were built last with one and the same result.
+            Result result = resultOf(ring);
+            if (firstOtherText(result) != NONE) {
                 return OTHER_TEXT;
             }
-            return firstOtherAnswer(resultOf(ring)) != NONE ? OTHER_ANSWER : 0;
+            return firstOtherAnswer(result) != NONE ? OTHER_ANSWER : 0;
         }
 
         int culpritOf(int ring, int reason) {
             switch (reason) {
                 case NEVER_BUILT: return firstUnbuilt(ring);
-                case OTHER_TEXT: return firstOtherText(ring);
+                case OTHER_TEXT: return firstOtherText(resultOf(ring));
                 case OTHER_RING:
                 case OTHER_ANSWER: return Rings.smallestOf(ring);
                 default: return NONE;
@@ -1025,9 +1027,10 @@ public final class CutoffMill {
             return false;
         }
 
-        private int firstOtherText(int ring) {
+        /** The smallest module of a result that has another text now, or NONE. */
+        private int firstOtherText(Result result) {
             for (int module = 0; module < MODULES; module++) {
-                if (Rings.has(ring, module) && !texts.isSame(last[module].texts, module)) {
+                if (Rings.has(result.modules, module) && !texts.isSame(result.texts, module)) {
                     return module;
                 }
             }
@@ -1122,21 +1125,12 @@ public final class CutoffMill {
         private int placeInStore(int ring) {
             for (int k = store.count - 1; k >= 0; k--) {
                 Result result = store.kept[k];
-                if (result.modules == ring && hasTextsOfNow(result)
+                if (result.modules == ring && firstOtherText(result) == NONE
                         && firstOtherAnswer(result) == NONE) {
                     return k;
                 }
             }
             return NONE;
-        }
-
-        private boolean hasTextsOfNow(Result result) {
-            for (int module = 0; module < MODULES; module++) {
-                if (Rings.has(result.modules, module) && !texts.isSame(result.texts, module)) {
-                    return false;
-                }
-            }
-            return true;
         }
 
         private Result freeResult() {
