@@ -101,7 +101,11 @@ public final class FaceTest {
             for (Method m : type.getDeclaredMethods()) {
                 boolean isFace = type == CutoffMill.class && Modifier.isPublic(m.getModifiers());
                 need(isFace || !face.contains(m.getName()), m + " bears a name of the face");
+                need(m.getParameterCount() <= 7, m + " takes too much");
             }
+            int fields = 0;
+            for (Field f : type.getDeclaredFields()) if (!Modifier.isStatic(f.getModifiers())) fields++;
+            need(fields <= 20, type + " has " + fields + " fields");
             for (Field f : type.getDeclaredFields()) {
                 need(!Modifier.isStatic(f.getModifiers()) || Modifier.isFinal(f.getModifiers()), f + " is static, but not final");
             }

@@ -16,7 +16,8 @@ import java.util.TreeSet;
  */
 public final class OracleTest {
     private static final int RUNS = 300;
-    private static final int CALLS = 512;
+    /** With a digest behind each 16 of them, there are 510 calls of an object. */
+    private static final int CALLS = 480;
 
     public static void main(String[] args) {
         int first = args.length > 0 ? Integer.parseInt(args[0]) : 1;
@@ -73,13 +74,18 @@ public final class OracleTest {
             this.seen = seen;
             nameCount = new int[] {3, 4, 6, 8, 16}[random.nextInt(5)];
             moduleGoal = 1 + random.nextInt(8);
-            style = random.nextInt(4);
+            style = random.nextInt(6);
+        }
+
+        /** Modules that lean on lower ones, of which the lower ones are changed, and that are built ring by ring. */
+        boolean isLayered() {
+            return style >= 4;
         }
 
         String play() {
             for (int call = 0; call < CALLS; call++) {
                 String wrong = call < moduleGoal && style != 3 ? compare("module", 0)
-                    : random.nextInt(100) < 55 ? edit() : random.nextInt(100) < 45 ? compare("build", 1 + draw(8, 2)) : ask();
+                    : random.nextInt(100) < 55 ? edit() : random.nextInt(100) < 45 ? build() : ask();
                 if (wrong != null) return log + wrong;
                 if (call % 16 == 15 || call == CALLS - 1) {
                     wrong = compare("digest");
@@ -90,9 +96,10 @@ public final class OracleTest {
             return null;
         }
 
-        /** Mostly the whole, sometimes less. */
-        int draw(int whole, int part) {
-            return random.nextBoolean() ? whole - 1 : random.nextInt(part);
+        /** As often the whole as one or two rings of it; ring by ring in layers. */
+        String build() {
+            if (isLayered()) return compare("build", random.nextInt(5) == 0 ? 8 : 1);
+            return compare("build", random.nextBoolean() ? 8 : 1 + random.nextInt(2));
         }
 
         int module() {
@@ -124,6 +131,7 @@ public final class OracleTest {
                 return compare("declare", old);
             }
             if (dice < 2) return compare("module");
+            if (isLayered() && random.nextInt(3) > 0 && !model.modules.isEmpty()) return change();
             if (dice < 62) {
                 int module = module();
                 int name = name();
@@ -142,13 +150,27 @@ public final class OracleTest {
             if (dice < 90) {
                 int module = module();
                 int from = random.nextInt(60) == 0 ? random.nextInt(12) - 2
-                    : style < 2 && module > 0 ? random.nextInt(module) : random.nextInt(Math.max(2, moduleGoal));
-                boolean isAll = random.nextInt(3) == 0;
+                    : (style < 2 || isLayered()) && module > 0 ? random.nextInt(module) : random.nextInt(Math.max(2, moduleGoal));
+                boolean isAll = isLayered() || random.nextInt(3) == 0;
                 int name = isAll ? -1 : name();
                 int under = isAll ? (random.nextInt(40) == 0 ? 1 : 0) : random.nextBoolean() ? name : name();
                 return compare("bring", module, from, name, under, random.nextInt(3) == 0 ? 0 : 1);
             }
             return compare("leave", module(), random.nextInt(7) - 1 + (random.nextInt(3) == 0 ? 0 : -random.nextInt(2)));
+        }
+
+        /** Changes one part of a declaration of a lower module. */
+        String change() {
+            int module = random.nextInt((model.modules.size() + 1) / 2);
+            List<Integer> names = new ArrayList<>(model.modules.get(module).declarations.keySet());
+            int name = names.isEmpty() ? name() : names.get(random.nextInt(names.size()));
+            Declaration d = model.modules.get(module).declarations.getOrDefault(name, new Declaration(1, true, 1, -1, -1));
+            switch (random.nextInt(4)) {
+                case 0: return compare("declare", module, name, d.kind, 1, random.nextInt(3), d.p, d.q);
+                case 1: return compare("declare", module, name, 1 - d.kind, 1, d.number, -1, d.q);
+                case 2: return compare("declare", module, name, 1, 1, d.number, d.p, reference(module, name, 1));
+                default: return compare("declare", module, name, 1, 1, d.number, d.p == name ? -1 : name, d.q);
+            }
         }
 
         void remember(int module, int name) {

@@ -1,17 +1,5 @@
 /** At least one test for each promise of the document: ordinary inputs, edges, wrong inputs. */
-public final class PromiseTest {
-    private static final int CONSTANT = 0;
-    private static final int PROCEDURE = 1;
-    private static final int NONE = -1;
-    private static final int FAILED = -1000000;
-    private static final String INDEX = "IndexOutOfBoundsException";
-    private static final String ARGUMENT = "IllegalArgumentException";
-    private static final String STATE = "IllegalStateException";
-
-    private static int wrong = 0;
-    private static int checked = 0;
-    private static String part = "";
-
+public final class PromiseTest extends Checks {
     public static void main(String[] args) {
         promise1();
         promise2();
@@ -48,100 +36,7 @@ public final class PromiseTest {
         promise19();
         promise20();
         promise21();
-        System.out.println(checked + " checks, " + wrong + " wrong");
-        if (wrong != 0) System.exit(1);
-    }
-
-    // ---- helpers
-
-    private static void same(String what, long got, long due) {
-        checked++;
-        if (got != due) {
-            wrong++;
-            System.out.println(part + ": " + what + " answered " + got + ", due is " + due);
-        }
-    }
-
-    private static void same(String what, boolean got, boolean due) {
-        same(what, got ? 1 : 0, due ? 1 : 0);
-    }
-
-    private interface Call {
-        void make();
-    }
-
-    /** The call throws just this, and nothing that can be asked is changed by it. */
-    private static void refused(CutoffMill mill, String due, Call call) {
-        checked++;
-        long before = mill.digest();
-        String got = "nothing";
-        try {
-            call.make();
-        } catch (RuntimeException e) {
-            got = e.getClass().getSimpleName();
-        }
-        if (!got.equals(due)) {
-            wrong++;
-            System.out.println(part + ": threw " + got + ", due is " + due);
-        }
-        same("digest behind a call that throws", mill.digest(), before);
-    }
-
-    private static CutoffMill withModules(int count) {
-        CutoffMill mill = new CutoffMill();
-        for (int k = 0; k < count; k++) mill.module();
-        return mill;
-    }
-
-    private static void constant(CutoffMill mill, int module, int name, int number) {
-        mill.declare(module, name, CONSTANT, true, number, NONE, NONE);
-    }
-
-    private static void procedure(CutoffMill mill, int module, int name, int number, int p, int q) {
-        mill.declare(module, name, PROCEDURE, true, number, p, q);
-    }
-
-    private static void isWithin(CutoffMill mill, int module, int name, int dueModule, int dueName) {
-        same("within(" + module + ", " + name + ", 0)", mill.within(module, name, 0), dueModule);
-        same("within(" + module + ", " + name + ", 1)", mill.within(module, name, 1), dueName);
-    }
-
-    private static void isOutside(CutoffMill mill, int module, int name, int dueModule, int dueName) {
-        same("outside(" + module + ", " + name + ", 0)", mill.outside(module, name, 0), dueModule);
-        same("outside(" + module + ", " + name + ", 1)", mill.outside(module, name, 1), dueName);
-    }
-
-    private static void isAnswered(CutoffMill mill, int module, int name, int... due) {
-        for (int k = 0; k < due.length; k++) {
-            same("outside(" + module + ", " + name + ", " + (k + 2) + ")", mill.outside(module, name, k + 2), due[k]);
-        }
-    }
-
-    private static void isBuilt(CutoffMill mill, int module, int name, int... due) {
-        for (int k = 0; k < due.length; k++) {
-            same("built(" + module + ", " + name + ", " + k + ")", mill.built(module, name, k), due[k]);
-        }
-    }
-
-    private static void isWhy(CutoffMill mill, int module, int... due) {
-        for (int k = 0; k < due.length; k++) {
-            same("why(" + module + ", " + k + ")", mill.why(module, k), due[k]);
-        }
-    }
-
-    private static void isOfModule(CutoffMill mill, int what, int... due) {
-        for (int k = 0; k < due.length; k++) {
-            same("ofModule(" + k + ", " + what + ")", mill.ofModule(k, what), due[k]);
-        }
-    }
-
-    /** How many rings a whole build builds and fetches. */
-    private static void renews(CutoffMill mill, int dueBuilt, int dueFetched) {
-        int built = mill.many(7);
-        int fetched = mill.many(8);
-        same("build(8)", mill.build(8), dueBuilt + dueFetched);
-        same("rings built", mill.many(7) - built, dueBuilt);
-        same("rings fetched", mill.many(8) - fetched, dueFetched);
+        end();
     }
 
     // ---- promises
@@ -1072,33 +967,17 @@ public final class PromiseTest {
         long due = 58138;
         for (int k = 0; k < 13; k++) due = due * 31;
         same("digest() of a new object", empty.digest(), due * 31 + 1);
-        CutoffMill mill = chain();
-        same("digest()", mill.digest(), digestOf(mill));
-        mill.declare(0, 6, PROCEDURE, true, 5, 9, NONE);
-        mill.build(2);
-        same("digest()", mill.digest(), digestOf(mill));
-        same("digest() again", mill.digest(), digestOf(mill));
-        mill.build(8);
-        same("digest()", mill.digest(), digestOf(mill));
+        for (int steps = 0; steps <= 2; steps++) {
+            int done = steps;
+            same("digest()", editedChain(steps).digest(), digestOf(() -> editedChain(done)));
+        }
     }
 
-    private static long digestOf(CutoffMill mill) {
-        long d = 58138;
-        for (int k = 0; k <= 9; k++) d = d * 31 + mill.many(k);
-        for (int m = 0; m < mill.many(0); m++) {
-            for (int k = 0; k <= 8; k++) d = d * 31 + mill.ofModule(m, k);
-            for (int k = 0; k <= 3; k++) d = d * 31 + mill.why(m, k);
-            for (int n = 0; n <= 15; n++) {
-                for (int k = 0; k <= 1; k++) d = d * 31 + mill.within(m, n, k);
-                for (int k = 0; k <= 5; k++) d = d * 31 + mill.outside(m, n, k);
-                for (int k = 0; k <= 5; k++) d = d * 31 + mill.built(m, n, k);
-                d = d * 31 + mill.run(m, n);
-            }
-        }
-        for (int f = 0; f < mill.many(5); f++) for (int k = 0; k <= 2; k++) d = d * 31 + mill.fault(f, k);
-        d = d * 31 + mill.wouldBuild();
-        d = d * 31 + mill.rounds(1);
-        d = d * 31 + mill.rounds(2);
-        return d * 31 + (mill.isAsNew() ? 1 : 0);
+    private static CutoffMill editedChain(int steps) {
+        CutoffMill mill = chain();
+        if (steps > 0) mill.declare(0, 6, PROCEDURE, true, 5, 9, NONE);
+        if (steps > 0) mill.build(2);
+        if (steps > 1) mill.build(8);
+        return mill;
     }
 }
